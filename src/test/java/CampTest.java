@@ -175,5 +175,6 @@ public final class CampTest {
             check.due("the turn of herder " + h, y.name(h, 0), h);
         }
         check.due("six names", y.now(1), 6);
+        check.due("all have names", y.now(0), 0b111111);
     }
 }

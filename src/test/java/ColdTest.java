@@ -118,6 +118,11 @@ public final class ColdTest {
         check.due("its turns", one.newName(2, 3, 0), KnotNames.NONE);
         check.due("its turns", one.newName(2, 3, 1), KnotNames.NONE);
         check.due("a turn too many comes first", one.newName(2, 3, 2), KnotNames.BAD);
+        check.due("a first one", one.newName(2, 2, 0), 1);
+        check.due("and none behind it", one.newName(2, 3, 0), KnotNames.NONE);
+        KnotNames just = Check.told("hu;hd;hl;hr;ho;");
+        check.due("just one", just.newName(1, 1, -1), 1);
+        check.due("it is i", just.newName(1, 1, 0), 4);
     }
 
     private static void newNameRefused() {

@@ -70,6 +70,17 @@ public final class ContractTest {
         check.due("it pulls out", six.pulls(0), 1);
         check.due("the first of two", six.lives(0), 0);
         check.due("and his", six.lives(1), 5);
+        KnotNames asked = Check.told("hu;hl;hi;");
+        Check.adds(asked, "l");
+        check.due("next() before lives()", asked.next(), 1);
+        asked.tears();
+        Check.adds(asked, "ui");
+        check.due("next() anew", asked.next(), 0);
+        asked.tears();
+        Check.adds(asked, "i");
+        check.due("next() once more", asked.next(), 2);
+        asked.tears();
+        check.due("next() of none", asked.next(), KnotNames.NONE);
     }
 
     private static void noLives() {

@@ -31,6 +31,10 @@ public final class NamesTest {
         check.due("from the other side", one.ring(2), 0b000111);
         check.due("the undoing one is another", one.ring(3), 0b001000);
         check.due("of two turns", one.ring(4), 0b110000);
+        KnotNames deep = Check.told("huliird;hii;huliuuord;huu;huliuord;hu;");
+        check.due("two go from each end", deep.ring(0), 0b000011);
+        check.due("three go, two are left", deep.ring(3), 0b001100);
+        check.due("three go, one is left", deep.ring(4), 0b110000);
         KnotNames twice = Check.told("hulul;hlulu;hullu;huull;hul;");
         check.due("a ring of repeated turns", twice.ring(0), 0b00011);
         check.due("like turns, another ring", twice.ring(2), 0b01100);
