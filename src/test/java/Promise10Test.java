@@ -72,6 +72,12 @@ public final class Promise10Test {
         scene.refuses(Scene.FULL, "bends 1 0").reads("uuuuuul riiiiii |u");
     }
 
+    /** Thirteen is too long for one of them though the other has eleven. */
+    static void p10ThirteenOfOneAloneIsFull() {
+        Scene scene = Scene.told("hluuuuuu;hiiiiir;").then("adds 0", "keep 0").typed("h");
+        scene.refuses(Scene.FULL, "bends 0 1", "bends 1 0").reads("luuuuuu iiiiir |u");
+    }
+
     static void p10TwentyFourIsFull() {
         Scene.full().refuses(Scene.FULL, "bends 0 2", "bends 5 3");
     }

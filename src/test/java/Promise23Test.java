@@ -37,6 +37,16 @@ public final class Promise23Test {
     static void p23OneIsLeft() {
         pulls("udu", 0, 1, 1, 1);
         pulls("lud", 0, 1, 1, 1);
+        pulls("udl", 0, 1, 1, 1);
+    }
+
+    /** A TURN goes with one that undoes it, not with two. */
+    static void p23ATurnUndoesOneAlone() {
+        pulls("udd", 0, 1, 1, 1);
+        pulls("uud", 0, 1, 1, 1);
+        pulls("uddddddddddd", 0, 10, 10, 1);
+        pulls("uuuuuuuuuuud", 0, 10, 10, 1);
+        pulls("uldld", 0, 5, 3, 0);
     }
 
     /** "12 TURNS at most" */

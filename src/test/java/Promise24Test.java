@@ -114,6 +114,14 @@ public final class Promise24Test {
         Scene.full().then("tears").asks("lives 0", 0).asks("lives 1", 1);
     }
 
+    /** A row of 72 TURNS, some of which undo one another, does not spoil those that come behind it. */
+    static void p24BehindTheLongestRow() {
+        Scene scene = Scene.told("huuuuuuuu;hiiiiiiii;huiuiuiui;hiuiuiuiu;huuuuuuuu;hrruuuuuu;").tied(0, "uuuu")
+                .tied(1, "iiii").tied(2, "uiui").tied(3, "iuiu").tied(4, "uull").tied(5, "uuuu").added("iiiiiiiiiiii");
+        scene.asks("lives -1", 1);
+        first(scene, 1);
+    }
+
     static void p24WhatStandsNowIsRead() {
         Scene scene = Scene.told("hu;hl;").added("ul").then("lives 0").answers("lives 1", 1);
         scene.then("tears").answers("lives -1", 0).answers("lives 0", Scene.NONE);

@@ -53,4 +53,14 @@ public final class Promise25Test {
         scene.then("unties 0").answers("next", Scene.NONE);
         scene.then("tears").answers("next", Scene.NONE);
     }
+
+    /** In how many rows one was before does not count. */
+    static void p25NothingIsLeftOfAnEarlierAnswer() {
+        for (int before = 0; before < 6; before++) {
+            Scene asked = Scene.told("hu;hd;hl;hr;hi;ho;").then("adds " + before).times(9, "next").then("tears");
+            for (int h = 0; h < 6; h++) {
+                asked.then("adds " + h).answers("next", h);
+            }
+        }
+    }
 }
