@@ -114,6 +114,12 @@ public final class Promise24Test {
         Scene.full().then("tears").asks("lives 0", 0).asks("lives 1", 1);
     }
 
+    static void p24TheTwelfthTurnCounts() {
+        Scene scene = Scene.told("huuuuuuuu;huuuuuuuu;").tied(0, "uuuu").tied(1, "uuul").added("uuuuuuuuuuul");
+        scene.asks("lives -1", 1);
+        first(scene, 1);
+    }
+
     /** A row of 72 TURNS, some of which undo one another, does not spoil those that come behind it. */
     static void p24BehindTheLongestRow() {
         Scene scene = Scene.told("huuuuuuuu;hiiiiiiii;huiuiuiui;hiuiuiuiu;huuuuuuuu;hrruuuuuu;").tied(0, "uuuu")
